@@ -1113,15 +1113,6 @@ public final class ReflectCensus {
             return false;
         }
 
-        void put(int person, int square) {
-            here.personAt[person] = square;
-            lay(square, PERSON + person);
-        }
-
-        void lift(int person) {
-            lay(here.personAt[person], FREE);
-        }
-
         void face(int shine, int direction) {
             here.face[shine] = direction;
             look(shine);
@@ -1294,12 +1285,12 @@ public final class ReflectCensus {
         /** The first n DEEDS, or those before the first that can't be: how many. */
         int perform(Evening evening, Law law, int n) {
             for (int k = 0; k < n && k < evening.deeds; k++) {
-                if (!perform(evening.kind[k], evening.first[k], evening.second[k], law)) return k;
+                if (!does(evening.kind[k], evening.first[k], evening.second[k], law)) return k;
             }
             return Math.min(n, evening.deeds);
         }
 
-        private boolean perform(int kind, int who, int direction, Law law) {
+        private boolean does(int kind, int who, int direction, Law law) {
             if (kind == COUNT) {
                 countAll(law);
                 return true;
@@ -1317,10 +1308,12 @@ public final class ReflectCensus {
 
         private boolean go(int person, int direction) {
             if (!board.here.hasPerson(person)) return false;
-            int to = board.stepFrom(board.here.personAt[person], direction);
+            int from = board.here.personAt[person];
+            int to = board.stepFrom(from, direction);
             if (to == NONE || !board.isFree(to)) return false;
-            board.lift(person);
-            board.put(person, to);
+            board.lay(from, FREE);
+            board.lay(to, PERSON + person);
+            board.here.personAt[person] = to;
             return true;
         }
 
@@ -1419,7 +1412,7 @@ public final class ReflectCensus {
         void placeOne(Parish parish, Law law, int person, boolean fewest) {
             board.begin(parish);
             begin();
-            board.lift(person);
+            board.lay(parish.personAt[person], FREE);
             int without = board.sumBy(law);
             for (int square = 0; square < board.squares(); square++) {
                 if (!board.isFree(square)) continue;
@@ -1430,30 +1423,26 @@ public final class ReflectCensus {
         /** One whom no SHINE comes to is neither seen nor in the way. */
         private int sumWith(int person, int square, Law law, int without) {
             if (!board.isInSight(square)) return without;
-            board.put(person, square);
+            board.lay(square, PERSON + person);
             int sum = board.sumBy(law);
-            board.lift(person);
+            board.lay(square, FREE);
             return sum;
         }
 
         void placeTwo(Parish parish, Law law, int a, int b) {
             board.begin(parish);
             begin();
-            board.lift(a);
-            board.lift(b);
-            for (int square = 0; square < board.squares(); square++) {
-                if (!board.isFree(square)) continue;
-                board.put(a, square);
-                placeOther(law, b, 64 * square);
-                board.lift(a);
-            }
-        }
-
-        private void placeOther(Law law, int b, int base) {
-            int without = board.sumBy(law);
-            for (int square = 0; square < board.squares(); square++) {
-                if (!board.isFree(square)) continue;
-                offer(sumWith(b, square, law, without), base + square, false);
+            board.lay(parish.personAt[a], FREE);
+            board.lay(parish.personAt[b], FREE);
+            for (int first = 0; first < board.squares(); first++) {
+                if (!board.isFree(first)) continue;
+                board.lay(first, PERSON + a);
+                int without = board.sumBy(law);
+                for (int other = 0; other < board.squares(); other++) {
+                    if (!board.isFree(other)) continue;
+                    offer(sumWith(b, other, law, without), 64 * first + other, false);
+                }
+                board.lay(first, FREE);
             }
         }
 
@@ -1687,8 +1676,7 @@ public final class ReflectCensus {
         private void change(Parish parish, int others, int set) {
             for (int p = 0; p < parish.people; p++) {
                 if ((others >>> p & 1) == 0) continue;
-                if ((set >>> p & 1) != 0) board.put(p, parish.personAt[p]);
-                else board.lift(p);
+                board.lay(parish.personAt[p], (set >>> p & 1) != 0 ? PERSON + p : FREE);
             }
         }
 
