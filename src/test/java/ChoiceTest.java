@@ -29,6 +29,8 @@ public final class ChoiceTest {
     // before the one who is seen from both sides he is seen in his stead: SUM is alike, so the least SQUARE
     ReflectCensus e = Due.census("size 4 2;eye 0 0 2 9 0;person 2 0 0;person 3 1 1;wall 0 1;wall 1 1;wall 2 1;spoon 3 0 6 9 1;", "");
     stands(e, 0, 1, 1, 2, 1, 2);
+    stands(Due.census("size 2 2;spoon 1 0 6 9 0;person 1 1 0;", ""), 0, 0, 2, 0, 0, 1);
+    stands(Due.census("size 2 2;spoon 1 0 0 9 0;person 1 1 0;", ""), 0, 0, 0, 0, 0, 0);
     due.is("no such person", c.stand(0, 0, 1, true, true), -1);
     due.is("no such person", c.stand(0, 0, -1, true, true), -1);
     due.is("no such parish", c.stand(1, 0, 0, true, true), -1);
@@ -48,6 +50,15 @@ public final class ChoiceTest {
     ReflectCensus d = Due.census("size 2 2;spoon 0 0 2 9 0;person 0 1 0;person 1 0 1;wall 1 1;", "");
     due.is("both may change places", d.together(0, 0, 0, 1, false), 64 * 1 + 2);
     due.is("both may change places", d.together(0, 0, 1, 0, false), 64 * 1 + 2);
+    ReflectCensus e = Due.census("size 2 2;pond 1 1 0 9 0;person 1 0 0;person 0 1 1;", "");
+    due.is("from SQUARE 0 on", e.together(0, 0, 0, 1, false), 1);
+    due.is("from SQUARE 0 on", e.together(0, 0, 0, 1, true), 2);
+    ReflectCensus f = Due.census("size 2 2;pond 1 0 0 9 0;person 0 1 0;person 1 1 1;wall 0 0;", "");
+    due.is("from SQUARE 2 on", f.together(0, 0, 0, 1, false), 64 * 2 + 3);
+    // the mirror sees SQUARE 0 and a twin of the first one, so the other had better stand there
+    ReflectCensus g = Due.census("size 3 2;mirror 1 1 7 9 0;person 2 0 1;person 2 1 2;person 0 1 1;wall 1 0;", "twins;");
+    due.is("the other on SQUARE 0", g.together(0, 0, 0, 1, true), 2);
+    due.is("the other on SQUARE 0", g.together(0, 0, 0, 1, false), 64 * 2);
     due.is("both are one", c.together(0, 0, 1, 1, true), -1);
     due.is("no such person", c.together(0, 0, 0, 2, true), -1);
     due.is("no such person", c.together(0, 0, 2, 0, true), -1);
@@ -84,6 +95,7 @@ public final class ChoiceTest {
     due.is("in the way", d.spoon(0, 0, 0, true), 3);
     due.is("in the way, looking right", d.spoon(0, 0, 0, false), 8 * 1 + 2);
     due.is("SIZE 9 and TWINS", Due.census("size 3 2;person 0 0 0;", "").spoon(0, 0, 3, false), 8 * 1 + 6);
+    due.is("on SQUARE 0", Due.census("size 2 2;person 0 1 0;", "").spoon(0, 0, 3, false), 4);
     due.is("no party", c.spoon(0, 0, 4, true), -1);
     due.is("no party", c.spoon(0, 0, -1, true), -1);
     due.is("no parish", c.spoon(1, 0, 0, true), -1);
@@ -128,6 +140,14 @@ public final class ChoiceTest {
       due.is("one has none", d.prize(0, 0, 1, 0), -1);
       due.is("one has none", d.rest(0, 0, -1), -1);
     }
+    ReflectCensus ponds = Due.census("size 3 2;pond 0 1 3 9 0;pond 2 1 3 9 1;person 0 0 0;person 2 0 1;", "");
+    due.is("all couples are rests", ponds.rest(0, 0, -1), 64);
+    for (int k = 0; k < 64; k++) due.is("the k-th", ponds.rest(0, 0, k), k);
+    for (int face = 0; face < 2; face++) {
+      ReflectCensus up = Due.census("size 3 2;spoon 0 1 3 9 " + face + ";spoon 2 1 3 9 " + (1 - face) + ";person 0 0 0;person 2 0 1;", "");
+      due.is("one rest", up.rest(0, 0, -1), 1);
+      due.is("both up", up.rest(0, 0, 0), 0);
+    }
     // the TOTAL is of all a PARTY's SHINES, of which only the least is turned
     ReflectCensus e = Due.census("size 3 2;spoon 0 0 0 9 0;spoon 2 0 0 9 1;person 0 1 0;person 2 1 1;spoon 1 0 3 9 0;", "");
     due.is("both of them", e.prize(0, 0, 0, 32), 2);
@@ -141,6 +161,7 @@ public final class ChoiceTest {
     ReflectCensus d = Due.census("size 4 2;spoon 0 0 2 9 0;person 1 0 0;", "");
     due.is("none helps: the least", d.barred(0, 0, false), 2);
     due.is("none helps", d.barred(0, 0, true), 1);
+    due.is("SQUARE 0", Due.census("size 2 2;pond 1 1 0 9 0;person 1 0 0;", "").barred(0, 0, false), 0);
     due.is("no SQUARE is FREE", Due.census("size 2 2;wall 0 0;wall 1 0;wall 0 1;pond 1 1 0 1 0;", "").barred(0, 0, true), -1);
     due.is("no SQUARE is FREE", Due.census("size 2 2;wall 0 0;wall 1 0;wall 0 1;pond 1 1 0 1 0;", "").barred(0, 0, false), -1);
     due.is("no parish", c.barred(1, 0, true), -1);

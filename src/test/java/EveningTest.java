@@ -92,6 +92,8 @@ public final class EveningTest {
     due.is("TAX by the eye", c.state(0, 1, 0, 2, 20), 4);
     due.is("nothing by SOUP", c.state(0, 1, 0, 2, 40), 0);
     due.is("gained by the eye", c.state(0, 1, 0, 2, 41), 2);
+    ReflectCensus e = Due.census("size 3 2;person 0 1 0;person 1 1 0;person 2 1 0;spoon 0 0 2 9 0;", "", "count;go 2 0;count;", "");
+    for (int p = 0; p < 3; p++) due.is("TAXED where he went " + p, e.state(0, 0, 0, 3, 20 + p), p == 2 ? 1 : 0);
     due.is("tax 0", Due.census("size 2 2;person 0 0 0;pond 1 0 0 1 0;", "tax 0;", "count;", "").state(0, 0, 0, 1, 20), 0);
   }
 

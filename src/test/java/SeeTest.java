@@ -18,6 +18,7 @@ public final class SeeTest {
     puddles();
     alone();
     known();
+    shapes();
     due.end();
   }
 
@@ -136,6 +137,10 @@ public final class SeeTest {
     }
     due.is("no such parish", c.party(1, 0, 0, true), -1);
     due.is("no such law", c.party(0, 1, 0, true), -1);
+    for (int way = 0; way < 3; way++) {
+      ReflectCensus one = Due.census("size 2 2;spoon 0 0 4 9 3;person 0 1 0;", "seats 20;way " + way + ";");
+      due.is("all to the only one", one.party(0, 0, 3, true), 20);
+    }
     // of several the least: two of like TOTALS, one SEAT
     String two = "size 4 2;spoon 0 0 4 9 3;person 0 1 0;spoon 3 0 4 9 2;person 3 1 1;";
     for (int way = 0; way < 3; way++) {
@@ -200,6 +205,23 @@ public final class SeeTest {
     due.is("no such parish", f.alone(-1, 0), -2);
     ReflectCensus g = Due.census("pond 0 0 0 1 0;pond 0 1 0 1 0;pond 1 0 0 1 0;", "");
     due.is("three couples", g.alone(0, 2), 3);
+  }
+
+  /** Parishes of other shapes by turns: like WIDE, like HIGH, neither. */
+  private static void shapes() {
+    String[] sizes = {"size 4 3;", "size 4 6;", "size 7 3;", "size 7 6;"};
+    for (String first : sizes) {
+      for (String second : sizes) {
+        ReflectCensus c = Due.census(first + "eye 1 1 2 1 0;person 3 1 0;person 0 1 0;", "");
+        Due.tell(c, 0, second + "eye 1 1 0 1 0;person 1 2 0;person 1 0 0;");
+        for (int round = 0; round < 2; round++) {
+          due.is("right", c.looks(0, 0, 2), 0);
+          due.is("left", c.looks(0, 0, 6), 1);
+          due.is("down", c.looks(1, 0, 4), 0);
+          due.is("up", c.looks(1, 0, 0), 1);
+        }
+      }
+    }
   }
 
   private static void known() {

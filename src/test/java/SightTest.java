@@ -78,6 +78,8 @@ public final class SightTest {
   private static void edges() {
     ReflectCensus c = Due.census(ROW, "", "", "told 0 1;");
     for (int w : new int[] {-1, 5, 6, 9, 17, 1000, Integer.MAX_VALUE, Integer.MIN_VALUE}) due.is("another what " + w, c.fits(0, 0, 0, w), -2);
+    ReflectCensus no = Due.census(ROW, "", "", "told 0 9;");
+    for (int w : new int[] {-1, 5, 9, 10, Integer.MIN_VALUE}) due.is("another what, nothing fits " + w, no.fits(0, 0, 0, w), -2);
     due.is("no parish", c.fits(1, 0, 0, 0), -2);
     due.is("no law", c.fits(0, 1, 0, 0), -2);
     due.is("no sight", c.fits(0, 0, 1, 0), -2);
@@ -112,6 +114,8 @@ public final class SightTest {
     due.is("another n", c.wind(0, 0, -1, true), -1);
     due.is("no parish", c.wind(1, 0, 1, true), -1);
     due.is("no law", c.wind(0, 1, 1, true), -1);
+    // a pond and a spoon that looks at it: no cousins
+    winds(Due.census("size 4 2;spoon 0 0 2 9 0;pond 1 0 0 9 0;person 2 0 0;", "cousins 9;"), 2, 1, 2);
     winds(Due.census(parish, "soup spoon;"), 1, 0, 1);
     winds(Due.census(parish, "soup pond;"), 5, 1, 1);
     winds(Due.census("", ""), 7, 0, 1);

@@ -51,7 +51,20 @@ public final class TextTest {
     due.is("end(580)", c.end(580), 580);
     due.is("feed to 600", c.feed(0x20202020, 0x20202020, 0x20202020, 0x20202020, 0x20202020), 600);
     due.is("600 blanks are a text", c.text(2, -1), 0);
+    cutOff("twins;", 4, 0);
+    cutOff("seats 123;", 8, 8);
+    cutOff("twins;;", 5, 5);
     due.is("deeds of it", c.deed(0, -1, 0), 0);
+  }
+
+  /** What was cut off is no more there, though it would make the last token longer. */
+  private static void cutOff(String text, int length, int place) {
+    ReflectCensus c = new ReflectCensus();
+    Due.feed(c, text);
+    due.is("end(" + length + ")", c.end(length), length);
+    due.is("a FAULT", c.text(1, -1), -1);
+    due.is("FAULT 1", c.fault(0), 1);
+    due.is("its place", c.fault(1), place);
   }
 
   private static void texts() {
@@ -123,7 +136,10 @@ public final class TextTest {
     faulty(0, "person 8 0 0;", 2, 7);
     faulty(0, "person 0 0 10;", 2, 11);
     faulty(0, "pond 0 0 8 1 0;", 2, 9);
+    faulty(0, "pond 0 0 0 0 0;", 2, 11);
     faulty(0, "spoon 0 0 0 0 0;", 2, 12);
+    faulty(0, "mirror 0 0 0 0 0;", 2, 13);
+    faulty(0, "eye 0 0 0 0 0;", 2, 10);
     faulty(0, "mirror 0 0 0 10 0;", 2, 13);
     faulty(0, "eye 0 0 0 1 4;", 2, 12);
     faulty(0, "wall 7 0;", 4, 9);
@@ -137,6 +153,7 @@ public final class TextTest {
     faulty(0, "eye 0 0 1 1 1;pond 0 0 1 1 1;", 5, 29);
     faulty(0, "person 0 0 1;person 0 0 1;wall 6 0;", 4, 35);
     faulty(0, "Size 2 2;", 1, 0);
+    faulty(0, "xize 2 2;", 1, 0);
     faulty(0, "sizE 2 2;", 1, 0);
     faulty(0, "sizes 2 2;", 1, 0);
     faulty(0, "siz", 1, 0);
