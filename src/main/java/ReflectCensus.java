@@ -80,6 +80,9 @@ public final class ReflectCensus {
     }
 
     public int text(int sort, int at) {
+        // the tape is taken by every call, also where no text is read
+        int length = now.length;
+        now.length = 0;
         now.fault = 0;
         now.place = NONE;
         if (sort < 0 || sort >= SORTS) return NO_SUCH;
@@ -87,8 +90,7 @@ public final class ReflectCensus {
         boolean further = at == NONE;
         if (further && number >= MOST_OF_A_SORT) return NO_SUCH;
         if (!further && (at < 0 || at >= number)) return NO_SUCH;
-        reader.read(now.tape, now.length, sort);
-        now.length = 0;
+        reader.read(now.tape, length, sort);
         now.fault = reader.fault;
         now.place = reader.place;
         if (reader.fault != 0) return NONE;

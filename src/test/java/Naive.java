@@ -253,13 +253,13 @@ public final class Naive {
 
   @SuppressWarnings("unchecked")
   public int text(int sort, int at) {
+    List<Integer> tape = now.tape;
+    now.tape = new ArrayList<>();
     now.fault = 0; now.place = NONE;
     if (sort < 0 || sort > 3) return -2;
     List<Object> list = (List<Object>) now.of(sort);
     if (at == NONE ? list.size() >= 2 : at < 0 || at >= list.size()) return -2;
     List<Line> lines = new ArrayList<>();
-    List<Integer> tape = now.tape;
-    now.tape = new ArrayList<>();
     int[] f = parse(sort, tape, lines);
     Object made = null;
     if (f[0] == 0) {

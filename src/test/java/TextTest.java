@@ -6,6 +6,7 @@ public final class TextTest {
     newObject();
     tape();
     texts();
+    refusedTexts();
     parishFaults();
     otherFaults();
     asManyAsMayBe();
@@ -89,7 +90,10 @@ public final class TextTest {
     due.is("no place then", c.fault(1), -1);
     Due.feed(c, "size 3 4;person 1 1 5;");
     due.is("no third is read", c.text(0, -1), -2);
-    due.is("the tape is still there", c.text(0, 0), 0);
+    due.is("the tape was taken all the same", c.text(0, 0), 0);
+    due.is("an empty text was read", c.parish(0, 0), 6);
+    Due.feed(c, "size 3 4;person 1 1 5;");
+    due.is("in the first's place", c.text(0, 0), 0);
     due.is("parish(0, 0)", c.parish(0, 0), 3);
     due.is("parish(0, 2)", c.parish(0, 2), 1);
     due.is("parish(1, 0)", c.parish(1, 0), 6);
@@ -101,6 +105,57 @@ public final class TextTest {
     due.is("parish(0, 0)", c.parish(0, 0), 6);
     due.is("parish(0, 2)", c.parish(0, 2), 0);
     due.is("square(0, 4)", c.square(0, 4), 0);
+  }
+
+  /** Every text() takes the tape, whatever it answers; nothing else is changed where none is read. */
+  private static void refusedTexts() {
+    for (int sort = 0; sort < 4; sort++) {
+      ReflectCensus c = new ReflectCensus();
+      refused(c, sort, 0);
+      refused(c, sort, 1);
+      refused(c, sort, -2);
+      refused(c, sort, Integer.MAX_VALUE);
+      refused(c, sort, Integer.MIN_VALUE);
+      due.is("none came", c.count(sort), 0);
+      c.text(sort, -1);
+      refused(c, sort, 1);
+      c.text(sort, -1);
+      refused(c, sort, -1);
+      refused(c, sort, 2);
+      due.is("two as before", c.count(sort), 2);
+    }
+    ReflectCensus c = new ReflectCensus();
+    for (int sort : new int[] {-1, 4, 5, Integer.MAX_VALUE, Integer.MIN_VALUE}) {
+      refused(c, sort, -1);
+      refused(c, sort, 0);
+    }
+    imageBeforeARefusal();
+  }
+
+  private static void refused(ReflectCensus c, int sort, int at) {
+    String name = "text(" + sort + ", " + at + ")";
+    Due.feed(c, "x");
+    due.is(name, c.text(sort, at), -2);
+    due.is(name + " fault", c.fault(0), 0);
+    due.is(name + " place", c.fault(1), -1);
+    due.is(name + " leaves no byte", c.end(1), -1);
+    due.is(name + " and a feed is the first", c.feed(0, 0, 0, 0, 0), 20);
+    c.end(0);
+  }
+
+  private static void imageBeforeARefusal() {
+    ReflectCensus c = new ReflectCensus();
+    Due.feed(c, "tax 7;");
+    c.image(0);
+    due.is("refused", c.text(1, 0), -2);
+    due.is("an empty tape", c.end(1), -1);
+    c.image(1);
+    due.is("again(0)", c.again(0), true);
+    due.is("the image has its tape", c.text(1, -1), 0);
+    due.is("tax", c.law(0, 5), 7);
+    due.is("again(1)", c.again(1), true);
+    due.is("the other has none", c.text(1, -1), 0);
+    due.is("tax", c.law(0, 5), 1);
   }
 
   private static void faulty(int sort, String text, int fault, int place) {
