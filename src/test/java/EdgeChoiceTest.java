@@ -19,6 +19,7 @@ public final class EdgeChoiceTest {
     sevenAndEightShines();
     couples();
     restsNoneAndAll();
+    restsByPrizes();
     gameOfOthers();
     walls();
     byTheDefinition();
@@ -292,6 +293,40 @@ public final class EdgeChoiceTest {
     ReflectCensus all = Due.census("spoon 0 0 0 9 0;spoon 5 5 0 9 1;", "");
     due.is("all", all.rest(0, 0, -1), 64);
     for (int k = 0; k <= 64; k++) due.is("the k-th", all.rest(0, 0, k), k < 64 ? k : -1);
+  }
+
+  /** "by which neither gains by another one": in games where much hangs on what the other does. */
+  private static void restsByPrizes() {
+    String[] games = {
+        "size 4 6;mirror 2 3 2 6 0;mirror 1 4 2 2 1;pond 0 4 6 6 1;pond 1 2 0 9 0;eye 2 0 6 4 1;spoon 2 4 6 5 1;mirror 3 5 4 5 1;person 1 0 0;person 3 1 6;person 3 2 3;"
+            + "person 0 2 4;person 0 5 0;person 2 5 1;wall 2 2;wall 0 1;wall 0 3;",
+        "size 4 5;spoon 1 2 3 9 0;mirror 2 3 3 8 1;eye 2 1 0 8 0;pond 0 3 6 1 0;eye 1 4 0 9 1;spoon 2 2 6 4 1;person 3 3 2;person 3 4 5;person 0 2 6;person 0 4 3;person 2 0 4;",
+        "size 5 6;spoon 0 3 1 6 0;spoon 1 3 3 2 1;spoon 1 5 5 6 0;pond 3 3 7 5 0;eye 1 2 5 9 1;pond 4 1 0 3 1;person 3 1 7;person 4 0 7;person 0 0 6;person 3 5 2;person 0 1 7;",
+        "size 3 3;spoon 0 0 0 9 0;spoon 2 0 0 9 1;person 0 2 0;person 2 2 1;person 1 1 2;",
+        "size 3 3;eye 0 0 0 9 1;mirror 2 1 0 9 0;person 0 2 0;person 2 2 1;person 1 0 2;person 1 2 3;"};
+    for (String game : games) {
+      for (String law : new String[] {"", "cousins 1;", "cousins 2;twins;", "cousins 9;soup mirror;"}) restsByPrizes(game, law);
+    }
+  }
+
+  private static void restsByPrizes(String game, String law) {
+    ReflectCensus c = Due.census(game, law);
+    int[][] mine = new int[8][8];
+    int[][] yours = new int[8][8];
+    for (int couple = 0; couple < 64; couple++) {
+      mine[couple / 8][couple % 8] = c.prize(0, 0, 0, couple);
+      yours[couple / 8][couple % 8] = c.prize(0, 0, 1, couple);
+    }
+    int found = 0;
+    for (int a = 0; a < 8; a++) {
+      for (int b = 0; b < 8; b++) {
+        boolean calm = true;
+        for (int face = 0; face < 8; face++) calm &= mine[face][b] <= mine[a][b] && yours[a][face] <= yours[a][b];
+        if (calm) due.is(game + law + " rest " + found, c.rest(0, 0, found++), 8 * a + b);
+      }
+    }
+    due.is(game + law + " rests", c.rest(0, 0, -1), found);
+    due.is(game + law + " no further one", c.rest(0, 0, found), -1);
   }
 
   /** "NONE: a PARTY of both has no SHINE": PARTIES 2 and 3 are no matter; "its least SHINE" is turned. */
