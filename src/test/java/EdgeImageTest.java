@@ -95,22 +95,18 @@ public final class EdgeImageTest {
   /** "all that is told": both of each sort, with all that they have. */
   private static void everySort() {
     for (int k = 0; k < 3; k++) {
-      ReflectCensus c = full(1);
-      due.is("image", c.image(k), true);
-      isTold(c, 0, 1);
-      isTold(c, 1, 2);
-      tellAll(c, 5, 0);
-      isTold(c, 0, 5);
-      isTold(c, 1, 2);
-      due.is("again", c.again(k), true);
-      isTold(c, 0, 1);
-      isTold(c, 1, 2);
-      tellAll(c, 4, 1);
-      isTold(c, 0, 1);
-      isTold(c, 1, 4);
-      due.is("again", c.again(k), true);
-      isTold(c, 0, 1);
-      isTold(c, 1, 2);
+      for (int at = 0; at < 2; at++) {
+        ReflectCensus c = full(1);
+        due.is("image", c.image(k), true);
+        isTold(c, 0, 1);
+        isTold(c, 1, 2);
+        tellAll(c, 5, at);
+        isTold(c, at, 5);
+        isTold(c, 1 - at, 2 - at);
+        due.is("again", c.again(k), true);
+        isTold(c, 0, 1);
+        isTold(c, 1, 2);
+      }
     }
   }
 
