@@ -21,6 +21,8 @@ public final class EdgeEveningTest {
     drawnOfAll();
     drawnWithout();
     drawnCounts();
+    countsNowByCousins();
+    countsNowBySize();
     due.end();
   }
 
@@ -348,6 +350,41 @@ public final class EdgeEveningTest {
         for (int w = 50; w < 60; w++) due.is("no " + w, c.drawn(0, 0, seed, n, w), -2);
       }
       for (int n : new int[] {-1, 41}) due.is("another n", c.drawn(0, 0, seed, n, 0), -2);
+    }
+  }
+
+  /** "60 + s: its COUNT now" is by COUSINS, whatever TAX is: in a row of seven SPOONS each looks at the next. */
+  private static void countsNowByCousins() {
+    StringBuilder row = new StringBuilder("size 8 2;person 7 0 0;");
+    for (int s = 0; s < 7; s++) row.append("spoon " + s + " 0 2 9 0;");
+    for (int cousins = 0; cousins <= 9; cousins++) {
+      for (int tax = 0; tax <= 9; tax++) {
+        ReflectCensus c = evening(row.toString(), "cousins " + cousins + ";tax " + tax + ";", "count;stir 3;");
+        for (int s = 0; s < 7; s++) {
+          int counted = 6 - s <= cousins ? 1 : 0;
+          due.is("COUNT of " + s + " by " + cousins, c.state(0, 0, 0, 1, 60 + s), counted);
+          due.is("the fourth is STIRRED", c.state(0, 0, 0, 2, 60 + s), s > 3 ? counted : 0);
+          due.is("drawn", c.drawn(0, 0, 0, 0, 60 + s), counted);
+        }
+        due.is("SUM now", c.state(0, 0, 0, 1, 1), Math.min(7, cousins + 1));
+        due.is("TAXED", c.state(0, 0, 0, 1, 20), tax * Math.min(7, cousins + 1));
+      }
+    }
+  }
+
+  /** "SIZE at most", of COUNTS now, of SUM now and of what a SHINE has by counts; TAXES know no SIZE. */
+  private static void countsNowBySize() {
+    for (int size = 1; size <= 9; size++) {
+      StringBuilder t = new StringBuilder("size 3 3;pond 1 1 0 " + size + " 0;");
+      for (int d = 0; d < 8; d++) t.append("person " + (1 + RIGHT[d]) + " " + (1 + DOWN[d]) + " " + d + ";");
+      ReflectCensus c = evening(t.toString(), "", "count;count;");
+      for (int n = 0; n <= 2; n++) {
+        due.is("COUNT now", c.state(0, 0, 0, n, 60), Math.min(8, size));
+        due.is("SUM now", c.state(0, 0, 0, n, 1), Math.min(8, size));
+        due.is("by counts", c.state(0, 0, 0, n, 40), n * Math.min(8, size));
+        for (int p = 0; p < 8; p++) due.is("TAXED", c.state(0, 0, 0, n, 20 + p), n);
+      }
+      due.is("drawn", c.drawn(0, 0, 0, 0, 60), Math.min(8, size));
     }
   }
 }

@@ -19,6 +19,8 @@ public final class EdgeSightTest {
     winds();
     windsOfNone();
     mostWind();
+    windsByKind();
+    fitsByCousins();
     due.end();
   }
 
@@ -278,5 +280,33 @@ public final class EdgeSightTest {
     wind(t.toString(), "", 2, 4, 1);
     wind(t.toString(), "", 1, 0, 1);
     wind(t.toString(), "soup pond;", 9, 0, 1);
+  }
+
+  /** "each POND is STIRRED", which way it may face; no other KIND is, be its FACE 0 too. */
+  private static void windsByKind() {
+    String[] kinds = {"pond", "spoon", "mirror", "eye"};
+    for (int kind = 0; kind < 4; kind++) {
+      for (int d = 0; d < 8; d++) {
+        String one = "size 3 3;" + kinds[kind] + " 1 1 " + d + " 9 0;person " + (1 + RIGHT[d]) + " " + (1 + DOWN[d]) + " 0;";
+        for (int n = 1; n <= 9; n++) wind(one, "", n, kind == 0 ? n - 1 : 1, kind == 0 && n > 1 ? n : 1);
+      }
+    }
+  }
+
+  /** COUNTS are those by COUSINS, whatever TAX is: in a row of seven SPOONS each looks at the next, the last at one. */
+  private static void fitsByCousins() {
+    StringBuilder row = new StringBuilder("size 8 2;person 7 0 0;");
+    for (int s = 0; s < 7; s++) row.append("spoon " + s + " 0 2 9 0;");
+    for (int cousins = 0; cousins <= 9; cousins++) {
+      for (int tax = 0; tax <= 9; tax++) {
+        for (int s = 0; s < 7; s++) {
+          boolean counted = 6 - s <= cousins;
+          ReflectCensus c = seen(row.toString(), "cousins " + cousins + ";tax " + tax + ";", "told " + s + " 1;");
+          due.is("SETS by " + cousins + " of " + s, c.fits(0, 0, 0, 0), counted ? 1 : 0);
+          due.is("SURE", c.fits(0, 0, 0, 1), counted ? 1 : -1);
+          due.is("FALSE", c.fits(0, 0, 0, 3), counted ? 0 : 1);
+        }
+      }
+    }
   }
 }
